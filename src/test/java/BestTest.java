@@ -43,6 +43,15 @@ public final class BestTest {
         x = byTheLeft();
         x.mower(0, 311);
         D.due("the gap itself may be best", x.gap(1, 0), 2);
+        x = byTheLeft();
+        x.force(Due.textOf(x, "swings 11 * (not right = swing);tires 0;keeps 0;"));
+        x.mower(0, 811);
+        D.due("the last place", x.gap(1, 0), 9);
+        x.mower(0, 11);
+        x.put(0, 1, 5);
+        D.due("not where the second one is", x.gap(1, 0), 1);
+        x.mower(0, 111);
+        D.due("nor the third", x.gap(1, 0), 2);
     }
 
     private static void stands() {
@@ -67,6 +76,9 @@ public final class BestTest {
         x.sets(0, 0);
         D.due("never in the gap", x.stands(0, 0, 0), 1);
         D.due("he stays", x.told(0, 0), 2);
+        x.sets(0, 8);
+        x.put(1, 0, 0);
+        D.due("the last place", x.stands(0, 1, 0), 9);
     }
 
     private static void tempos() {
@@ -80,6 +92,8 @@ public final class BestTest {
         D.due("the least by which he comes round", x.tempo(2, 0), 7);
         D.due("once", x.tempo(2, 1), 1);
         D.due("the pace stays", x.row(2), 3);
+        x.put(0, 1, 1);
+        D.due("the most", x.tempo(2, 0), 11);
         D.due("none: the least", x.tempo(0, 0), 0);
     }
 
@@ -116,6 +130,8 @@ public final class BestTest {
         D.due("nobody", x.mean(1, 0), ScythesKeepStep.NO);
         x.force(Due.textOf(x, "swings 4;tires 0;keeps 0;"));
         x.mower(0, 500);
+        D.due("of one alone above", x.mean(3, 0), 1);
+        D.due("of one alone below", x.mean(3, 1), 3);
         x.mower(0, 800);
         D.due("none of two", x.mean(1, 0), 0);
         D.due("of one in lowest terms", x.mean(1, 1), 1);

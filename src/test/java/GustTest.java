@@ -100,6 +100,8 @@ public final class GustTest {
             D.due("below for " + least, x.odds(300, 40, least, 1), 40 / by);
         }
         D.due("seeds beyond 99999", x.odds(99999, 2, 0, 1), 1);
+        D.due("one seed, as many", x.odds(300, 1, cuts[0], 0), 1);
+        D.due("one seed, one more", x.odds(300, 1, cuts[0] + 1, 0), 0);
     }
 
     private static int gcd(int a, int b) {

@@ -45,6 +45,13 @@ public final class HostTest {
         D.due("all 0 again: a mower 0 at 0", x.mowersBy(0, 2, 0, 1), 1);
         D.due("at 0", x.told(0, 0), 0);
         D.due("more 0", x.told(0, 4), 0);
+        x.sheet(3, 2, 40);
+        x.cell(3, 38, 5);
+        x.cell(3, 39, 500);
+        x.sheet(3, 2, 40);
+        x.put(0, 0, 9);
+        D.due("the last are 0 again, too", x.mowersBy(3, 2, 38, 1), 1);
+        D.due("at 0 again", x.told(1, 0), 0);
     }
 
     private static void cells() {

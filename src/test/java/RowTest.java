@@ -297,6 +297,12 @@ public final class RowTest {
         D.due("seven away from the gap", x.told(2, 8), 0);
         x.sets(1, 9);
         D.due("a clash with the absent", x.told(2, 8), 1);
+        x.put(1, 1, 10);
+        x.sets(0, 2);
+        x.sets(1, 1);
+        D.due("left and right alone differ by six", x.told(1, 8), 0);
+        x.sets(1, 9);
+        x.sets(0, 4);
         x.put(0, 2, 6);
         D.due("tired and more", x.asks(2, 0), 9);
         x.sets(0, 8);

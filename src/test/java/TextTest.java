@@ -128,6 +128,7 @@ public final class TextTest {
         D.due("five noughts", faultOf("swings 1 + 00000" + REST), 11);
         D.due("fifty digits", faultOf("swings " + "9".repeat(50) + REST), 7);
         D.due("a word that is none", faultOf("swings beats" + REST), 7);
+        D.due("a to z are letters", faultOf("swings beata" + REST) + faultOf("swings beatz" + REST), 14);
         D.due("a word that begins like a name", faultOf("swings bea" + REST), 7);
         D.due("a long word", faultOf("swings " + "a".repeat(100)), 7);
         D.due("words that run together", faultOf("swings notbeat" + REST), 7);

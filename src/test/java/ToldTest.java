@@ -166,6 +166,8 @@ public final class ToldTest {
         D.due("not of 6", x.cell(0, 5, 5), -12);
         D.due("bytes", x.mowersBy(0, 0, 0, 0), 0);
         D.due("bytes, no shorts", x.mowersBy(0, 1, 0, 0), -13);
+        D.due("the last sheet", x.film(3, 0, 2), 2);
+        D.due("as it comes there", x.whose(3), 1);
         x.sheet(1, 2, 5);
         D.due("in place of ints", x.film(1, 0, 0), 0);
         D.due("bytes of none", x.mowersBy(1, 0, 0, 0), 0);
