@@ -47,7 +47,7 @@ public final class FaceTest {
         Set<String> found = new TreeSet<>();
         for (Method m : ScythesKeepStep.class.getDeclaredMethods()) {
             if (Modifier.isPublic(m.getModifiers())) {
-                String types = Arrays.toString(m.getParameterTypes()).replace("[", "").replace("]", "").replace(" ", "");
+                String types = Arrays.toString(m.getParameterTypes()).replaceAll("[\\[\\] ]", "");
                 found.add(m.getReturnType() + " " + m.getName() + "(" + types + ")");
                 D.holds(m.getName() + " is no static method", !Modifier.isStatic(m.getModifiers()));
             }

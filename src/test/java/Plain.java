@@ -9,8 +9,8 @@ import java.util.regex.Matcher;
 import java.util.regex.Pattern;
 
 /**
- * A second reading of the document, for tests alone: slow, made of objects that are copied for every thought, with
- * a class for each kind and a tree for each text, so that it shares no way of working with the class it is held against.
+ * A second reading of the document, for tests alone: slow, made of objects that are copied for every thought, with a
+ * class for each kind and a tree for each text, so that it works in another way than the class it is held against.
  */
 final class Plain {
     static final long NO = -4611686018427387904L;

@@ -147,11 +147,19 @@ public final class PlainTest {
             case "drawn" -> new int[] {upTo(99999), upTo(1)};
             case "odds" -> new int[] {upTo(99999), 1 + upTo(39), upTo(30), upTo(1)};
             case "sheet" -> new int[] {s, upTo(3) - 1, upTo(40)};
-            case "cell" -> new int[] {s, upTo(20), new int[] {upTo(59), 100 * upTo(9) + upTo(11), random.nextInt()}[upTo(2)]};
+            case "cell" -> new int[] {s, upTo(20), cellNumber()};
             case "copy" -> new int[] {s, upTo(5), upTo(3), upTo(5), upTo(8)};
             case "mowersBy" -> new int[] {s, upTo(2), upTo(10), upTo(6)};
             case "taken" -> new int[] {upTo(11), upTo(6)};
             default -> throw new IllegalArgumentException(name);
+        };
+    }
+
+    private int cellNumber() {
+        return switch (upTo(2)) {
+            case 0 -> upTo(59);
+            case 1 -> 100 * upTo(9) + upTo(11);
+            default -> random.nextInt();
         };
     }
 

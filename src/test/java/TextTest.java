@@ -186,8 +186,9 @@ public final class TextTest {
         x.mower(0, 0);
         x.force(Due.textOf(x, "swings 1;tires 1" + "+1".repeat(60) + ";keeps 3;"));
         D.due("its worth", x.asks(1, 0), 61);
-        D.due("a deep one", worth("1 or 2 and 3 = 4 + 5 * (1 or 2 and 3 = 4 + 5 * (1 or 2 and 3 = 4 + 5 * (beat)))"), 1);
+        D.due("a deep one", worth("0 or 2 and 8 = 4 + 4 * (0 or 2 and 8 = 4 + 4 * (0 or 2 and 11 = 4 + (beat)))"), 1);
         D.due("a deep sum", worth("1+2*(1+2*(1+2*(1+2*(1+2*1))))"), 63);
-        D.due("words of every kind", faultOf("swings beat or swing and left; tires not right = tired; keeps more < 1;"), -1);
+        String words = "swings beat or swing and left; tires not right = tired; keeps more < 1;";
+        D.due("words of every kind", faultOf(words), -1);
     }
 }
