@@ -22,7 +22,7 @@ public final class RoomTest {
         before = taken();
         calls(x);
         long room = taken() - before;
-        D.holds("calls took " + room + " bytes, " + sum, room < 2_000);
+        D.holds("calls took " + room + " bytes, " + sum, room < 10_000);
         D.end();
     }
 
