@@ -123,6 +123,14 @@ public final class BestTest {
         x.put(2, 1, 5);
         D.due("six: the sixth is best there", x.order(1, 0), 126345);
         D.due("six at six strokes", x.order(6, 1), 6);
+        x = new ScythesKeepStep();
+        x.force(Due.textOf(x, "swings 11 * (swing < left);tires 0;keeps 0;"));
+        x.sets(0, 9);
+        for (int m = 0; m < 6; m++) {
+            x.mower(0, 100 * m + 6 + m);
+        }
+        D.due("the last of all ways", x.order(1, 0), 654321);
+        D.due("all but one cut", x.order(1, 1), 5);
     }
 
     private static void means() {
