@@ -1,0 +1,153 @@
+import java.lang.reflect.InvocationTargetException;
+import java.lang.reflect.Method;
+import java.util.ArrayList;
+import java.util.HashMap;
+import java.util.List;
+import java.util.Map;
+
+/**
+ * Tests written as steps, each test on a new object. A step is one of
+ * <pre>
+ *   call(1, 2) = 3      the call is due to answer 3
+ *   call(1, 2) ? 3      too, and changes nothing, as it only asks
+ *   call(1, 2) ! -2     too, and changes nothing, as it is refused
+ *   text: TEXT = 1      all of TEXT is fed, then text() is due to answer 1
+ *   bytes 0: 1 2 3      sheet 0 becomes these bytes (shorts, ints likewise)
+ * </pre>
+ * That nothing changes is held by a twin, for which the call is left out: both must read alike ever after.
+ */
+final class Steps {
+    private static final Map<String, Method> CALLS = new HashMap<>();
+    private static final int CALLS_MOST = 512;
+
+    private final Due due = new Due();
+
+    static {
+        for (Method m : ScythesKeepStep.class.getDeclaredMethods()) {
+            CALLS.put(m.getName(), m);
+        }
+    }
+
+    /** One call with its arguments; without an answer that is due, if want is null. */
+    private record Call(String text, Method method, Object[] args, Long want, boolean changes) {
+        long on(ScythesKeepStep x) {
+            try {
+                return ((Number) method.invoke(x, args)).longValue();
+            } catch (IllegalAccessException | InvocationTargetException e) {
+                throw new IllegalStateException(text, e);
+            }
+        }
+    }
+
+    /** A test's steps that are shared with others, and some of its own. */
+    static String[] with(String[] shared, String... own) {
+        String[] all = new String[shared.length + own.length];
+        System.arraycopy(shared, 0, all, 0, shared.length);
+        System.arraycopy(own, 0, all, shared.length, own.length);
+        return all;
+    }
+
+    void test(String title, String... steps) {
+        ScythesKeepStep x = new ScythesKeepStep();
+        List<Call> done = new ArrayList<>();
+        for (String step : steps) {
+            for (Call call : callsOf(step)) {
+                String name = title + ": " + call.text;
+                long got = call.on(x);
+                if (call.want != null) {
+                    due.due(name, got, call.want);
+                }
+                if (call.changes) {
+                    done.add(call);
+                } else {
+                    String change = change(done, call);
+                    due.holds(name + " changes something: " + change, change.isEmpty());
+                }
+            }
+        }
+    }
+
+    void end() {
+        due.end();
+    }
+
+    private static String change(List<Call> done, Call asked) {
+        Readings one = new Readings(after(done));
+        ScythesKeepStep x = after(done);
+        asked.on(x);
+        Readings other = new Readings(x);
+        if (done.size() + 1 + other.calls() > CALLS_MOST) {
+            throw new IllegalStateException("too many calls: " + asked.text);
+        }
+        return one.unlike(other);
+    }
+
+    private static ScythesKeepStep after(List<Call> done) {
+        ScythesKeepStep x = new ScythesKeepStep();
+        for (Call call : done) {
+            call.on(x);
+        }
+        return x;
+    }
+
+    private static List<Call> callsOf(String step) {
+        List<Call> calls = new ArrayList<>();
+        int colon = step.indexOf(": ");
+        int sign = Math.max(step.lastIndexOf(" = "), Math.max(step.lastIndexOf(" ? "), step.lastIndexOf(" ! ")));
+        Long want = sign < 0 ? null : number(step.substring(sign + 3));
+        if (step.startsWith("text: ")) {
+            addFeeds(calls, step.substring(6, sign));
+            calls.add(call(step, "text", true, want));
+        } else if (colon >= 0) {
+            addCells(calls, step.substring(0, colon), step.substring(colon + 2).trim());
+        } else {
+            int open = step.indexOf('(');
+            String inside = step.substring(open + 1, step.lastIndexOf(')', sign)).replace(" ", "");
+            String[] args = inside.isEmpty() ? new String[0] : inside.split(",");
+            int[] numbers = new int[args.length];
+            for (int i = 0; i < args.length; i++) {
+                numbers[i] = (int) number(args[i]);
+            }
+            calls.add(call(step, step.substring(0, open), step.charAt(sign + 1) == '=', want, numbers));
+        }
+        return calls;
+    }
+
+    private static void addFeeds(List<Call> calls, String text) {
+        for (int i = 0; i < text.length(); i += 5) {
+            int[] args = new int[6];
+            args[0] = Math.min(5, text.length() - i);
+            for (int k = 0; k < args[0]; k++) {
+                args[k + 1] = text.charAt(i + k);
+            }
+            calls.add(call(text, "feed", true, null, args));
+        }
+    }
+
+    private static void addCells(List<Call> calls, String sheet, String list) {
+        String[] numbers = list.isEmpty() ? new String[0] : list.split(" ");
+        int sort = sheet.startsWith("bytes ") ? 0 : sheet.startsWith("shorts ") ? 1 : 2;
+        int s = (int) number(sheet.substring(sheet.indexOf(' ') + 1));
+        calls.add(call(sheet, "sheet", true, 1L, s, sort, numbers.length));
+        for (int i = 0; i < numbers.length; i++) {
+            calls.add(call(sheet, "cell", true, 1L, s, i, (int) number(numbers[i])));
+        }
+    }
+
+    private static Call call(String text, String name, boolean changes, Long want, int... args) {
+        Object[] boxed = new Object[args.length];
+        for (int i = 0; i < args.length; i++) {
+            boxed[i] = args[i];
+        }
+        return new Call(text, CALLS.get(name), boxed, want, changes);
+    }
+
+    private static long number(String s) {
+        return switch (s.trim()) {
+            case "MIN" -> Integer.MIN_VALUE;
+            case "MAX" -> Integer.MAX_VALUE;
+            case "NO" -> ScythesKeepStep.NO;
+            default -> Long.parseLong(s.trim());
+        };
+    }
+}
