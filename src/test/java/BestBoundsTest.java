@@ -68,6 +68,7 @@ public final class BestBoundsTest {
         T.test("16: forty strokes", "text: swings 11 * (not left = swing);tires 0;keeps 0; = 1", "force(1) = 0",
             "sets(2, 11) = 3", "mower(0, 511) = 0", "gap(40, 0) ? 4", "gap(40, 1) ? 37", "gap(39, 1) ? 36");
         T.test("16: beyond stroke 999", Steps.with(one, "sets(3, 999) = 0", "gap(5, 1) ? 5"));
+        T.test("16: cut beyond 9999", Steps.with(one, "sets(4, 9999) = 0", "gap(5, 1) ? 5"));
     }
 
     private static void standsRefuses() {
@@ -107,6 +108,8 @@ public final class BestBoundsTest {
             "mower(0, 305) = 1", "stands(0, 1, 0) ? 4", "stands(0, 1, 1) ? 1"));
         T.test("17: the first of six", Steps.with(SIX, "stands(0, 0, 0) ? 0"));
         T.test("17: the last of six", Steps.with(SIX, "stands(5, 0, 0) ? 5", "stands(5, 40, 0) ? 5"));
+        T.test("17: cut beyond 9999, beyond stroke 999", Steps.with(LEFT, "mower(0, 311) = 0", "sets(3, 999) = 0",
+            "sets(4, 9999) = 0", "stands(0, 1, 0) ? 3", "stands(0, 1, 1) ? 1"));
         T.test("17: forty strokes", "text: swings 11 * (not left = swing);tires 0;keeps 0; = 1", "force(1) = 0",
             "sets(2, 11) = 3", "mower(0, 511) = 0", "stands(0, 40, 0) ? 3", "stands(0, 40, 1) ? 37");
     }
@@ -132,6 +135,8 @@ public final class BestBoundsTest {
         T.test("18: pace 0 alone", "text: swings 11 * (beat = 0);tires 0;keeps 0; = 1", "force(1) = 0",
             "mower(0, 511) = 0", "tempo(40, 0) ? 0", "tempo(40, 1) ? 37", "tempo(39, 1) ? 36");
         T.test("18: six", Steps.with(SIX, "tempo(1, 0) ? 0", "tempo(1, 1) ? 6"));
+        T.test("18: cut beyond 9999, beyond stroke 999", Steps.with(SIX, "sets(3, 999) = 0", "sets(4, 9999) = 0",
+            "tempo(1, 1) ? 6"));
         T.test("18: the pace now is no better", "sets(2, 11) = 3", "mower(0, 511) = 0", "tempo(1, 0) ? 0");
     }
 
@@ -170,6 +175,8 @@ public final class BestBoundsTest {
             "mower(0, 209) = 2", "mower(0, 308) = 3", "mower(0, 406) = 4", "mower(0, 507) = 5",
             "order(1, 0) ? 123465", "order(1, 1) ? 5"));
         T.test("19: six at six strokes", Steps.with(SIX, "order(6, 0) ? 123456", "order(6, 1) ? 12"));
+        T.test("19: six, cut beyond 9999, beyond stroke 999", Steps.with(SIX, "sets(3, 999) = 0", "sets(4, 9999) = 0",
+            "order(6, 0) ? 123456", "order(6, 1) ? 12"));
         T.test("19: six far from one another", "sets(0, 8) = 2", "mower(0, 0) = 0", "mower(0, 200) = 1",
             "mower(0, 400) = 2", "mower(0, 600) = 3", "mower(0, 700) = 4", "mower(0, 900) = 5", "order(0, 0) ? 123456");
     }
@@ -199,5 +206,6 @@ public final class BestBoundsTest {
         T.test("20: sixty strokes of six", Steps.with(SIX, "text: swings 11;tires 0;keeps 0; = 1", "force(1) = 0",
             "mean(60, 0) ? 11", "mean(60, 1) ? 12"));
         T.test("20: beyond stroke 999", "sets(3, 999) = 0", "mower(0, 511) = 0", "mean(1, 0) ? 1");
+        T.test("20: cut beyond 9999", "sets(4, 9999) = 0", "mower(0, 511) = 0", "mean(1, 0) ? 1");
     }
 }

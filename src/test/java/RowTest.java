@@ -20,6 +20,15 @@ public final class RowTest {
     }
 
     private static void aNewObject() {
+        ScythesKeepStep other = new ScythesKeepStep();
+        for (int what = 0; what < 5; what++) {
+            other.sets(what, 7);
+        }
+        other.mower(0, 107);
+        other.image();
+        other.sheet(0, 0, 3);
+        other.force(Due.textOf(other, "swings 1;tires 2;keeps 3;"));
+        other.feed(5, 1, 2, 3, 4, 5);
         ScythesKeepStep x = new ScythesKeepStep();
         int[] counts = {0, 0, 1, 0, 0};
         int[] marks = {2, 0, 3, 0, 0};

@@ -70,6 +70,8 @@ public final class TextBoundsTest {
         T.test("6: no digit of an earlier tape is read", "text: swings 123456789 = -107", "text: swings 1234 = -111");
         T.test("6: no letter of an earlier tape is read", "text: swings 1;tires 1;keepsx = -117",
             "text: swings 1;tires 1;keeps = -122");
+        T.test("6: nothing of a longer text stays", "text: swings 1;tires 1;keeps not 1; = 1",
+            "text: swings 2;tires 2;keeps 2; = 2", "mower(0, 1) = 0", "force(2) = 0", "asks(2, 0) ? 2");
         T.test("6: nothing of a deep fault stays", "text: swings 1;tires ((((((1 = -120",
             "text: swings ((((((1 = -112", "text: swings (((((1)))));tires 2;keeps 2; = 1");
     }
@@ -257,6 +259,10 @@ public final class TextBoundsTest {
         worth("2 is true, and 1", "2 or 0", 1);
         worth("below 0 is true", "-1 and -2", 1);
         worth("the least is true", "8192*8192*32 and 1", 1);
+        worth("1 and 0", "1 and 0", 0);
+        worth("0 and 1", "0 and 1", 0);
+        worth("0 and 0", "0 and 0", 0);
+        worth("2 and 4 is 1", "2 and 4", 1);
         worth("not of below 0", "not (-1)", 0);
         worth("not of 0", "not 0", 1);
         worth("of likes none is less", "5 < 5", 0);

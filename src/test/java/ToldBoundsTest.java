@@ -216,6 +216,8 @@ public final class ToldBoundsTest {
             "row(4) ? 0"));
         T.test("27: the last sheet, of the last of six", Steps.with(SIX, "film(3, 5, 20) = 20", "judge(3, 5) ? -1",
             "judge(3, 0) ? 0"));
+        T.test("27: beyond stroke 999", Steps.with(ONE, "sets(3, 999) = 0", "film(0, 0, 20) = 20", TWENTY.replace("ints 0",
+            "bytes 1"), "judge(0, 0) ? -1", "judge(1, 0) ? -1", "row(3) ? 999"));
         T.test("27: the same again changes nothing", Steps.with(ONE, "film(0, 0, 20) = 20", "film(0, 0, 20) ? 20"));
     }
 
