@@ -23,6 +23,7 @@ public final class HostBoundsTest {
         mowersByWidths();
         takenRefuses();
         takenKinds();
+        takenNumbers();
         takenSwings();
         T.end();
     }
@@ -306,6 +307,14 @@ public final class HostBoundsTest {
             }
             T.test("36: kind " + m + " for a swing", Steps.with(SIX, "taken(" + m + ", 6) ! -13"));
         }
+    }
+
+    private static void takenNumbers() {
+        String[] six = {"mower(59, 0) = 0", "mower(49, 100) = 1", "mower(39, 300) = 2", "mower(29, 400) = 3",
+            "mower(19, 500) = 4", "mower(9, 600) = 5"};
+        T.test("36: the number, whatever the kind, the place", Steps.with(six, "taken(0, 5) ? 0", "taken(1, 4) ? 1",
+            "taken(2, 3) ? 2", "taken(3, 2) ? 3", "taken(4, 1) ? 4", "taken(5, 0) ? 5", "taken(0, 0) ? 0",
+            "taken(1, 2) ? 1", "taken(2, 1) ? 2"));
     }
 
     private static void takenSwings() {

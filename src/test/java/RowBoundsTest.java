@@ -206,6 +206,8 @@ public final class RowBoundsTest {
 
     private static void mowersAreFull() {
         T.test("9: the sixth", Steps.with(SIX, "told(5, 0) ? 9", "count(0) ? 6"));
+        T.test("9: tired by 0, whoever else is tired", "mower(0, 0) = 0", "put(0, 2, 99) = 0", "mower(0, 100) = 1",
+            "told(1, 2) ? 0", "told(0, 2) ? 99");
         T.test("9: the seventh", Steps.with(SIX, "mower(0, 500) ! -4", "mower(59, 811) ! -4"));
         T.test("9: bad ahead of full, kind", Steps.with(SIX, "mower(60, 500) ! -2", "mower(-1, 500) ! -2"));
         T.test("9: bad ahead of full, swing", Steps.with(SIX, "mower(0, 512) ! -2"));

@@ -12,6 +12,7 @@ import java.util.Map;
  *   call(1, 2) ? 3      too, and changes nothing, as it only asks
  *   call(1, 2) ! -2     too, and changes nothing, as it is refused
  *   text: TEXT = 1      all of TEXT is fed, then text() is due to answer 1
+ *   tape: TEXT          all of TEXT is fed
  *   bytes 0: 1 2 3      sheet 0 becomes these bytes (shorts, ints likewise)
  * </pre>
  * That nothing changes is held by a twin, for which the call is left out: both must read alike ever after.
@@ -67,27 +68,40 @@ final class Steps {
         }
     }
 
+    /** Behind the steps that are shared, the last step changes just what is told, by lines of Readings. */
+    void changes(String title, String[] shared, String last, String... lines) {
+        test(title, with(shared, last));
+        List<Call> done = new ArrayList<>();
+        for (String step : shared) {
+            done.addAll(callsOf(step));
+        }
+        Readings ahead = readings(done);
+        done.addAll(callsOf(last));
+        List<String> changes = ahead.changes(readings(done));
+        due.holds(title + ": " + last + " changes " + changes, changes.equals(List.of(lines)));
+    }
+
     void end() {
         due.end();
     }
 
     private static String change(List<Call> done, Call asked) {
-        Readings one = new Readings(after(done));
-        ScythesKeepStep x = after(done);
-        asked.on(x);
-        Readings other = new Readings(x);
-        if (done.size() + 1 + other.calls() > CALLS_MOST) {
-            throw new IllegalStateException("too many calls: " + asked.text);
-        }
-        return one.unlike(other);
+        List<Call> all = new ArrayList<>(done);
+        all.add(asked);
+        return readings(done).unlike(readings(all));
     }
 
-    private static ScythesKeepStep after(List<Call> done) {
+    /** What a new object reads behind these calls. */
+    private static Readings readings(List<Call> calls) {
         ScythesKeepStep x = new ScythesKeepStep();
-        for (Call call : done) {
+        for (Call call : calls) {
             call.on(x);
         }
-        return x;
+        Readings readings = new Readings(x);
+        if (calls.size() + readings.calls() > CALLS_MOST) {
+            throw new IllegalStateException("too many calls: " + calls.get(calls.size() - 1).text);
+        }
+        return readings;
     }
 
     private static List<Call> callsOf(String step) {
@@ -98,6 +112,8 @@ final class Steps {
         if (step.startsWith("text: ")) {
             addFeeds(calls, step.substring(6, sign));
             calls.add(call(step, "text", true, want));
+        } else if (step.startsWith("tape: ")) {
+            addFeeds(calls, step.substring(6));
         } else if (colon >= 0) {
             addCells(calls, step.substring(0, colon), step.substring(colon + 2).trim());
         } else {

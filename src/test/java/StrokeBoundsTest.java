@@ -203,6 +203,9 @@ public final class StrokeBoundsTest {
             "sets(2, 0) = 3"};
         T.test("14: clashes behind none", Steps.with(still, "mower(0, 605) = 1", "when(1) ? 0"));
         T.test("14: clashes behind one", Steps.with(still, "mower(0, 606) = 1", "when(1) ? 1"));
+        T.test("14: two clash, a third one doesn't", Steps.with(still, "mower(0, 606) = 1", "mower(0, 801) = 2",
+            "when(1) ? 1"));
+        T.test("14: one clashes with the absent, another one doesn't", Steps.with(still, "mower(0, 306) = 1", "when(1) ? 0"));
         T.test("14: never clashes", Steps.with(still, "mower(0, 607) = 1", "when(1) ? -1"));
         whensAtTheEnd();
     }

@@ -180,6 +180,7 @@ public final class TextBoundsTest {
     private static void openEnds() {
         fault("a ( ends with its )", "(1)+(1)+(1)+(1)+(1)+(1)", -1);
         fault("five end with their )", "(((((1)))))+(((((1)))))", -1);
+        fault("five end with their ), however often", "(((((1)))))+(((((1)))))+(((((1)))))+(((((1)))))+(((((1)))))", -1);
         fault("four end, the first is open still", "((((1))) + ((((1)))))", -1);
         fault("one too many behind those that ended", "((((1))) + (((((1))))))", 15);
         fault("a - ends with its one", "-1+-1+-1+-1+-1+(((((1)))))", -1);
@@ -262,6 +263,9 @@ public final class TextBoundsTest {
         worth("1 and 0", "1 and 0", 0);
         worth("0 and 1", "0 and 1", 0);
         worth("0 and 0", "0 and 0", 0);
+        worth("1 or 1 below 0, though their sum is 0", "1 or -1", 1);
+        worth("1 and 2, though they share no bit", "1 and 2", 1);
+        worth("65536 and 65536, though their product wraps to 0", "256*256 and 256*256", 1);
         worth("2 and 4 is 1", "2 and 4", 1);
         worth("not of below 0", "not (-1)", 0);
         worth("not of 0", "not 0", 1);
