@@ -1,3 +1,6 @@
+import java.util.ArrayList;
+import java.util.List;
+
 /** Each call that changes something changes that, and nothing besides: neither the row, nor texts, sheets, the image. */
 public final class ChangeTest {
     private static final Steps T = new Steps();
@@ -23,6 +26,7 @@ public final class ChangeTest {
         films();
         sheets();
         cells();
+        asked();
         T.end();
     }
 
@@ -99,5 +103,47 @@ public final class ChangeTest {
             "by sheet 1: mower 3" + NOBODY);
         T.changes("34: to another one", Steps.with(RICH, "ints 3: 0 0 0 0"), "copy(2, 0, 3, 2, 2) = 2",
             "by sheet 3: mower 3 is 3 11 0 2 6");
+    }
+
+    /** By whatever is asked of the row, of its strokes, of sheets, nothing changes. */
+    private static void asked() {
+        List<String> calls = new ArrayList<>();
+        for (int what = 0; what < 5; what++) {
+            add(calls, "count(" + what + ")", "row(" + what + ")");
+        }
+        for (int n : new int[] {0, 1, 6, 33, 40, 60}) {
+            for (int what : new int[] {0, 1, 2, 3, 10, 11, 12, 20, 21, 22}) {
+                add(calls, "run(" + n + ", " + what + ")");
+            }
+            for (int what = 0; what < 2; what++) {
+                String rest = n + ", " + what + ")";
+                add(calls, "gap(" + rest, "tempo(" + rest, "order(" + rest, "mean(" + rest, "drawn(" + rest);
+                add(calls, "often(0, " + rest, "often(2, " + rest, "stands(0, " + rest, "stands(2, " + rest);
+                add(calls, "odds(" + n + ", 40, " + rest);
+            }
+        }
+        for (int m = 0; m < 3; m++) {
+            for (int what = 0; what < 10; what++) {
+                add(calls, "told(" + m + ", " + what + ")", "asks(" + what % 3 + ", " + m + ")", "when(" + what % 3 + ")");
+            }
+            for (int s = 0; s < 3; s++) {
+                String of = "(" + s + ", " + m;
+                add(calls, "judge" + of + ")", "laws" + of + ")", "whose(" + s + ")");
+                for (int what = 0; what < 4; what++) {
+                    add(calls, "kinds" + of + ", " + what % 2 + ")", "states" + of + ", " + what + ")",
+                        "weary" + of + ", " + what % 2 + ")");
+                }
+            }
+            for (int kind = 0; kind < 7; kind++) {
+                add(calls, "taken(" + m + ", " + kind + ")", "taken(" + (6 + m) + ", " + kind + ")");
+            }
+        }
+        T.test("terms: what is asked changes nothing", Steps.with(RICH, calls.toArray(new String[0])));
+    }
+
+    private static void add(List<String> calls, String... more) {
+        for (String call : more) {
+            calls.add(call + " ?");
+        }
     }
 }

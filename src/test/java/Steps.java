@@ -11,6 +11,7 @@ import java.util.Map;
  *   call(1, 2) = 3      the call is due to answer 3
  *   call(1, 2) ? 3      too, and changes nothing, as it only asks
  *   call(1, 2) ! -2     too, and changes nothing, as it is refused
+ *   call(1, 2) ?        changes nothing, whatever it answers
  *   text: TEXT = 1      all of TEXT is fed, then text() is due to answer 1
  *   tape: TEXT          all of TEXT is fed
  *   bytes 0: 1 2 3      sheet 0 becomes these bytes (shorts, ints likewise)
@@ -106,6 +107,10 @@ final class Steps {
 
     private static List<Call> callsOf(String step) {
         List<Call> calls = new ArrayList<>();
+        if (step.endsWith(" ?")) {
+            calls.add(call(step, nameIn(step), false, null, argsIn(step)));
+            return calls;
+        }
         int colon = step.indexOf(": ");
         int sign = Math.max(step.lastIndexOf(" = "), Math.max(step.lastIndexOf(" ? "), step.lastIndexOf(" ! ")));
         Long want = sign < 0 ? null : number(step.substring(sign + 3));
@@ -117,16 +122,23 @@ final class Steps {
         } else if (colon >= 0) {
             addCells(calls, step.substring(0, colon), step.substring(colon + 2).trim());
         } else {
-            int open = step.indexOf('(');
-            String inside = step.substring(open + 1, step.lastIndexOf(')', sign)).replace(" ", "");
-            String[] args = inside.isEmpty() ? new String[0] : inside.split(",");
-            int[] numbers = new int[args.length];
-            for (int i = 0; i < args.length; i++) {
-                numbers[i] = (int) number(args[i]);
-            }
-            calls.add(call(step, step.substring(0, open), step.charAt(sign + 1) == '=', want, numbers));
+            calls.add(call(step, nameIn(step), step.charAt(sign + 1) == '=', want, argsIn(step)));
         }
         return calls;
+    }
+
+    private static String nameIn(String step) {
+        return step.substring(0, step.indexOf('('));
+    }
+
+    private static int[] argsIn(String step) {
+        String inside = step.substring(step.indexOf('(') + 1, step.indexOf(')')).replace(" ", "");
+        String[] args = inside.isEmpty() ? new String[0] : inside.split(",");
+        int[] numbers = new int[args.length];
+        for (int i = 0; i < args.length; i++) {
+            numbers[i] = (int) number(args[i]);
+        }
+        return numbers;
     }
 
     private static void addFeeds(List<Call> calls, String text) {
