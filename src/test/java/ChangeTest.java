@@ -25,6 +25,7 @@ public final class ChangeTest {
         images();
         films();
         sheets();
+        othersStay();
         cells();
         asked();
         T.end();
@@ -93,6 +94,24 @@ public final class ChangeTest {
             "by sheet 0: mower 2 is 0 0 0 0 0", "by sheet 0: mower 3" + NOBODY);
         T.changes("32: missing", RICH, "sheet(1, -1, 0) = 1", "sheet 1 by sorts is -11 -11 -11", "size of sheet 1 is -1",
             "by sheet 1: mower 2" + NOBODY, "by sheet 1: mower 3" + NOBODY);
+    }
+
+    /** Of four sheets each one is changed alone. */
+    private static void othersStay() {
+        String[] four = Steps.with(RICH, "ints 3: 8 111 7 505");
+        for (int s = 0; s < 4; s++) {
+            String size = "size of sheet " + s + " is ";
+            String sorts = "sheet " + s + " by sorts is ";
+            String[] gone = {"by sheet " + s + ": mower 2" + NOBODY, "by sheet " + s + ": mower 3" + NOBODY};
+            String[] lines = s == 2 ? new String[] {gone[0]} : gone;
+            T.changes("32: missing alone", four, "sheet(" + s + ", -1, 0) = 1",
+                Steps.with(new String[] {sorts + "-11 -11 -11", size + "-1"}, lines));
+            T.changes("27: filmed alone", four, "film(" + s + ", 0, 0) = 0",
+                Steps.with(s == 0 ? new String[] {size + "0"} : new String[] {sorts + "0 -13 -13", size + "0"}, lines));
+            T.changes("33: its cell alone", four, "cell(" + s + ", 0, 60) = 1", s == 2 ? new String[] {gone[0]} :
+                new String[] {"by sheet " + s + ": mower 2 is " + new String[] {"0 1 0 1 2", "7 11 0 5 3", "", "5 5 0 0 7"}[s],
+                    gone[1]});
+        }
     }
 
     private static void cells() {
